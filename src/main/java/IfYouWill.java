@@ -450,9 +450,9 @@ public final class IfYouWill {
         static final int MUCH_NUMBER = 0, MUCH_AS = 1, MUCH_LEAST = 2, MUCH_MOST = 3;
         static final int STEP_NOT = 0, STEP_AND = 1, STEP_OR = 2;
         static final int STEP_WHO = 3, STEP_ALL = 4, STEP_ANY = 5, STEP_SUM = 6, STEP_DAY = 7;
-        /** The shortest rule with the 'else' ahead of it takes five bytes, the shortest step two. */
+        /** A rule with the 'else' ahead of it takes five bytes or more, a step with its blanks three. */
         static final int MOST_RULES = TEXT_BYTES / 5 + 1;
-        static final int MOST_STEPS = TEXT_BYTES / 2;
+        static final int MOST_STEPS = TEXT_BYTES / 3;
 
         private final int[] muchKinds = new int[MOST_RULES];
         private final int[] muchOf = new int[MOST_RULES];
@@ -564,17 +564,17 @@ public final class IfYouWill {
         }
 
         /** Whether so many ones less, at softPlaces from a place on, let the wanted deed. */
-        boolean softens(int ones, int from, int wanted, Scene scene) {
+        private static boolean softens(Term term, int ones, int from, int wanted, Scene scene) {
             if (ones <= 0) {
-                return allowed(scene) == wanted;
+                return term.allowed(scene) == wanted;
             }
             boolean found = false;
-            for (int k = from; k < softs && !found; k++) {
-                int place = softPlaces[k];
-                if (numbers[place] > leastAt(place)) {
-                    numbers[place]--;
-                    found = softens(ones - 1, k, wanted, scene);
-                    numbers[place]++;
+            for (int k = from; k < term.softs && !found; k++) {
+                int place = term.softPlaces[k];
+                if (term.numbers[place] > term.leastAt(place)) {
+                    term.numbers[place]--;
+                    found = softens(term, ones - 1, k, wanted, scene);
+                    term.numbers[place]++;
                 }
             }
             return found;
@@ -633,17 +633,16 @@ public final class IfYouWill {
 
         private void split() {
             tokens = 0;
-            int start = 0;
-            while (start < text.length) {
-                int kind = kindOf(text.bytes[start]);
-                int stop = start + 1;
-                while (stop < text.length && kind != TOKEN_SIGN && kindOf(text.bytes[stop]) == kind) {
-                    stop++;
+            int before = TOKEN_BLANK;
+            for (int at = 0; at < text.length; at++) {
+                int kind = kindOf(text.bytes[at]);
+                boolean joins = kind == TOKEN_WORD || kind == TOKEN_NUMBER;
+                if (joins && kind == before && tokens > 0) {
+                    stops[tokens - 1] = at + 1;
+                } else if (kind != TOKEN_BLANK) {
+                    addToken(kind, at, at + 1);
                 }
-                if (kind != TOKEN_BLANK) {
-                    addToken(kind, start, stop);
-                }
-                start = stop;
+                before = kind;
             }
             addToken(TOKEN_END, text.length, text.length);
         }
@@ -861,9 +860,8 @@ public final class IfYouWill {
 
     /** One person: its term, its money, and what the term has already been found to let on one day. */
     private static final class Person {
-        /** Rows without the own deed: the others have 4 to the 5 of them at most. */
-        static final int MOST_FOUND = MOST_ROWS / 4;
-        static final int NOT_FOUND = -1;
+        /** The others alone have 4 to the 5 rows at most; the answers for eight of them fill an int. */
+        static final int KEPT_INTS = MOST_ROWS / 4 / 8;
         static final int NO_DAY = 0;
 
         private final int number;
@@ -871,8 +869,9 @@ public final class IfYouWill {
         Term words = new Term();
         int part = 0;
         int worth = 0;
-        private final byte[] found = new byte[MOST_FOUND];
-        private int foundDay = NO_DAY;
+        /** What the term lets on the kept day: four bits for a row, one more than is let; 0: not known. */
+        private final int[] kept = new int[KEPT_INTS];
+        private int keptDay = NO_DAY;
 
         Person(int p, Scene shared) {
             number = p;
@@ -883,14 +882,14 @@ public final class IfYouWill {
             words.becomeZero();
             part = 0;
             worth = 0;
-            foundDay = NO_DAY;
+            keptDay = NO_DAY;
         }
 
         /** Takes a new term and hands back the old one, to be read into again. */
         Term exchange(Term newer) {
             Term old = words;
             words = newer;
-            foundDay = NO_DAY;
+            keptDay = NO_DAY;
             return old;
         }
 
@@ -901,25 +900,28 @@ public final class IfYouWill {
 
         /** As allowed, for calls that ask for many rows again and again: one day's answers are kept. */
         int allowedOften(int row, int day, int persons) {
-            if (foundDay != day) {
-                Arrays.fill(found, (byte) NOT_FOUND);
-                foundDay = day;
+            if (keptDay != day) {
+                Arrays.fill(kept, 0);
+                keptDay = day;
             }
             int below = row & (1 << 2 * number) - 1;
             int above = row >> 2 * number + 2 << 2 * number;
-            int place = (below | above) & MOST_FOUND - 1;
-            if (found[place] == NOT_FOUND) {
+            int place = (below | above) >> 3 & KEPT_INTS - 1;
+            int shift = 4 * ((below | above) & 7);
+            int known = kept[place] >> shift & 15;
+            if (known == 0) {
                 scene.look(number, row, day, persons);
-                found[place] = (byte) words.allowed(scene);
+                known = words.allowed(scene) + 1;
+                kept[place] |= known << shift;
             }
-            return found[place];
+            return known - 1;
         }
 
         /** The least ones less by which the term lets the own deed in a row. */
         int softness(int row, int persons) {
             scene.look(number, row, LAST_DAY, persons);
             for (int ones = 0; ones <= MOST_SOFTER; ones++) {
-                if (words.softens(ones, 0, deed(row, number), scene)) {
+                if (Term.softens(words, ones, 0, deed(row, number), scene)) {
                     return ones;
                 }
             }
@@ -1067,9 +1069,10 @@ public final class IfYouWill {
     /** Climbing from a row to where it rests, or round and round. */
     private static final class Climbing {
         static final int AT_ONCE = 0;
+        /** The mark is met within three times as many steps as there are rows. */
+        static final int ENOUGH_STEPS = 4 * MOST_ROWS;
 
         private final Village village;
-        private final int[] reached = new int[MOST_ROWS];
         int rest = NONE;
         int steps = 0;
         int round = 0;
@@ -1078,18 +1081,36 @@ public final class IfYouWill {
             village = home;
         }
 
-        /** One person (NONE: nobody) does a told word, whatever its term lets. */
+        /**
+         * One person (NONE: nobody) does a told word, whatever its term lets. The round is measured first,
+         * from a mark that is set anew after 1, 2, 4, .. steps till it is met again; then two go on with a
+         * round between them, till they meet where it begins. So no list of all rows is needed.
+         */
         void start(int row, int way, int teller, int word) {
-            Arrays.fill(reached, NONE);
-            int here = row;
-            int step = 0;
-            while (step < MOST_ROWS && reached[here] == NONE) {
-                reached[here] = step;
-                step++;
-                here = next(here, way, teller, word);
+            int mark = row;
+            int ahead = next(row, way, teller, word);
+            round = 1;
+            int limit = 1;
+            for (int k = 0; k < ENOUGH_STEPS && ahead != mark; k++) {
+                if (round == limit) {
+                    mark = ahead;
+                    limit *= 2;
+                    round = 0;
+                }
+                ahead = next(ahead, way, teller, word);
+                round++;
             }
-            steps = reached[here];
-            round = step - steps;
+            ahead = row;
+            for (int k = 0; k < round; k++) {
+                ahead = next(ahead, way, teller, word);
+            }
+            int here = row;
+            steps = 0;
+            while (here != ahead && steps < ENOUGH_STEPS) {
+                here = next(here, way, teller, word);
+                ahead = next(ahead, way, teller, word);
+                steps++;
+            }
             rest = round == 1 ? here : NONE;
         }
 

@@ -1,11 +1,15 @@
 import java.io.IOException;
+import java.lang.reflect.Array;
 import java.lang.reflect.Field;
 import java.lang.reflect.Method;
 import java.lang.reflect.Modifier;
 import java.nio.file.Files;
 import java.nio.file.Path;
 import java.util.Arrays;
+import java.util.Collections;
+import java.util.IdentityHashMap;
 import java.util.List;
+import java.util.Set;
 import java.util.TreeSet;
 import java.util.regex.Matcher;
 import java.util.regex.Pattern;
@@ -20,12 +24,13 @@ public final class FaceTest {
     private FaceTest() {
     }
 
-    public static void main(String[] args) throws IOException {
+    public static void main(String[] args) throws IOException, IllegalAccessException {
         constants();
         methods();
         nothingElseIsSeen();
         language(Files.readString(Path.of("src/main/java/IfYouWill.java")));
         wildArguments();
+        room();
         Check.end("FaceTest");
     }
 
@@ -99,6 +104,45 @@ public final class FaceTest {
             due("sixty lines at most: " + methods.group().lines().findFirst().orElse(""), lines <= 60);
         }
         due("methods were found", found > 60);
+    }
+
+    /** The room for all calls of a run is told: an object takes little of it, and calls take none. */
+    private static void room() throws IllegalAccessException {
+        IfYouWill x = Check.with("1 if any 2 give 1", "as 0", "most if not sum 6", "least", "2 if day 4", "3");
+        long atFirst = elements(new IfYouWill(), Collections.newSetFromMap(new IdentityHashMap<>()));
+        due("few fields and elements: " + atFirst, atFirst < 5000);
+        for (int row = 0; row < 60; row++) {
+            x.climb(row, 1, 0);
+            x.soft(IfYouWill.NONE, row);
+            x.sly(row % 6, 5, 0);
+            x.grows(row % 6, 1 + row % 9, 0);
+            x.possible(row, row);
+            x.leastTop(1 + row);
+            Check.tell(x, row % 6, "2 if not (sum 4 and any 2) else most");
+        }
+        long later = elements(x, Collections.newSetFromMap(new IdentityHashMap<>()));
+        due("as many later: " + later, later == atFirst);
+    }
+
+    private static long elements(Object o, Set<Object> seen) throws IllegalAccessException {
+        if (o == null || !seen.add(o)) {
+            return 0;
+        }
+        if (o.getClass().isArray()) {
+            long all = Array.getLength(o);
+            for (int k = 0; k < Array.getLength(o) && !o.getClass().getComponentType().isPrimitive(); k++) {
+                all += elements(Array.get(o, k), seen);
+            }
+            return all;
+        }
+        long all = 0;
+        for (Field f : o.getClass().getDeclaredFields()) {
+            if (!Modifier.isStatic(f.getModifiers())) {
+                f.setAccessible(true);
+                all += 1 + (f.getType().isPrimitive() ? 0 : elements(f.get(o), seen));
+            }
+        }
+        return all;
     }
 
     /** No call may throw, whatever it is given. */

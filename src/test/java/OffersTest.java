@@ -123,6 +123,7 @@ public final class OffersTest {
         Check.due("followed", x.sly(2, 6, 1), 1020);
         Check.due("not worth it", x.sly(1, 6, 0), 0);
         Check.due("an aim of 0", x.sly(1, 0, 1), 1009);
+        Check.due("at rest where none does anything", dyke(0, 5).sly(0, 0, 1), 1005);
         Check.due("of like ones the own one", Check.with("0").sly(0, 0, 0), 4);
         Check.due("the term is its own again", x.climb(0, 0, 0), 42);
         Check.due("unknown ahead of outside", x.sly(3, 19, 2), UNKNOWN);

@@ -41,6 +41,7 @@ public final class SealedTest {
         Check.due("sure by another", x.sure(8, 1), 2);
         Check.due("the sealed one is not", x.sure(8, 3), NONE);
         Check.due("what hangs on the sealed", x.sure(4, 1), NONE);
+        Check.due("not sure by the row 0", Check.with("1 if who 1", "1 if who 0").sure(0, 0), NONE);
         Check.due("sure as 0", Check.with("0", "1").sure(2, 0), 0);
         Check.due("none is possible", Check.with("1 if not who 1", "1 if who 0").sure(0, 0), NONE);
         Check.due("by rules about oneself", Check.with("1 if not who 1 else 2 if not who 0", "3").sure(0, 0), 2);

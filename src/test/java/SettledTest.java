@@ -96,6 +96,13 @@ public final class SettledTest {
         Check.due("four rows", x.climb(top, 0, 2), 4);
         Check.due("one by one two rows", x.climb(top, 1, 2), 2);
         Check.due("one by one never rests", x.climb(top, 1, 0), NONE);
+        x = Check.with("as 1", "as 2", "as 3", "as 4", "as 5", "1 if who 0 and not who 1 or who 1 and not who 0");
+        Check.due("a long round", x.climb(1, 0, 2), 63);
+        Check.due("straight into it", x.climb(1, 0, 1), 0);
+        Check.due("one step ahead of it", x.climb(3, 0, 1), 1);
+        Check.due("six steps ahead of it", x.climb(4095, 0, 1), 6);
+        Check.due("as long from there", x.climb(4095, 0, 2), 63);
+        Check.due("never at rest", x.climb(4095, 0, 0), NONE);
     }
 
     private static void climbRefusals() {

@@ -147,6 +147,9 @@ public final class TermsTest {
         fault("2\tif sum 1", 1, 1);
         fault("2 if sum 1 #", 1, 11);
         fault("2 ifsum 1", 1, 2);
+        fault("2 if sumz 1", 1, 5);
+        fault("2 if xho 1", 1, 5);
+        fault("2 xf sum 1", 1, 2);
         fine("2if sum1and who1gives2or day9else most", 2);
         fault("2 if sum 1 2", 1, 11);
         fault("2 if sum 1 if sum 2", 1, 11);
@@ -167,6 +170,7 @@ public final class TermsTest {
         fault("2 if all of 5 to 4 give 9", 3, 17);
         fault("2 if all of 5 to 004", 2, 17);
         fine("2 if all of 5 to 5 give 0", 1);
+        fine("2 if all of 0 to 0 and any 1 of 0 to 5", 1);
         fault("2 if all give 1 of 1 to 2", 1, 16);
         fault("2 if any", 1, 8);
         fault("2 if any of 1 to 2", 1, 9);
@@ -231,6 +235,9 @@ public final class TermsTest {
         Check.due("the least of the others", x.lets(3, row, 9), 1);
         Check.due("the most of the others", x.lets(4, row, 9), 3);
         Check.due("the own deed is no most", x.lets(4, Check.row(1, 2, 0, 0, 3), 9), 2);
+        Check.due("the least is that of 0", x.lets(3, Check.row(1, 2, 2, 0, 2), 9), 1);
+        x = Check.with("as 1", "least");
+        Check.due("the least of one other", x.lets(1, 3, 9), 3);
         x = Check.with("least");
         Check.due("least of none", x.lets(0, 3, 9), 0);
         x = Check.with("most else 3");
@@ -279,6 +286,11 @@ public final class TermsTest {
         Check.due("not of the one, and another", x.lets(4, 4, 9), 1);
         Check.due("not both", x.lets(5, 1, 9), 1);
         Check.due("both", x.lets(5, 5, 9), 0);
+        x = Check.with("1 if who 1 and (who 2)", "1 if day 9 and (who 0 or not (who 2 or day 1))", "0");
+        Check.due("brackets behind and", x.lets(0, Check.row(0, 1, 1), 9), 1);
+        Check.due("not all of brackets", x.lets(0, Check.row(0, 0, 1), 9), 0);
+        Check.due("brackets in brackets", x.lets(1, 0, 9), 1);
+        Check.due("brackets that fail", x.lets(1, Check.row(0, 0, 1), 9), 0);
         x = Check.with("1 if sum 18", "0", "0", "0", "0", "0");
         Check.due("sum 18 never", x.lets(0, 4095, 9), 0);
     }
@@ -302,6 +314,7 @@ public final class TermsTest {
         Check.due("count 2", x.count(2), 6);
         Check.due("count 3", x.count(3), 2);
         Check.due("count 4", x.count(4), OUTSIDE);
+        Check.due("growing on the last day", Check.with("1 if not (who 1 and day 8)", "0").count(3), 2);
         Check.due("count NONE", x.count(NONE), OUTSIDE);
     }
 
@@ -320,6 +333,10 @@ public final class TermsTest {
         x = Check.with("0", "3 if not any 1");
         Check.due("slip at 0", x.grows(1, 9, 0), 0);
         Check.due("slip by the first", x.grows(1, 9, 1), 0);
+        x = Check.with("3 if not any 1", "1 if not who 0 gives 3");
+        Check.due("slip at 0 of the first", x.grows(0, 9, 0), 0);
+        Check.due("slip by the second", x.grows(0, 9, 1), 1);
+        Check.due("slip by the last deed", x.grows(1, 9, 0), 2);
         x = Check.with("0", "3", "2 if not any 1");
         Check.due("of like ones the least other", x.grows(2, 9, 1), 0);
         Check.due("unknown ahead of outside", x.grows(3, 0, 2), UNKNOWN);

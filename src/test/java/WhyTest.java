@@ -31,6 +31,7 @@ public final class WhyTest {
         Check.due("a row below 0", x.hangs(0, -1), OUTSIDE);
         x = Check.with("1 if day 8 and who 1", "0");
         Check.due("on the last day", x.hangs(0, 0), 0);
+        Check.due("on the last day, whatever is done", x.hangs(0, 4), 0);
     }
 
     private static void leaving() {
