@@ -1134,8 +1134,12 @@ public final class IfYouWill {
         }
 
         boolean isAtRest(int set, int goal, int top) {
+            int all = pledged(set);
             for (int p = 0; p < village.size; p++) {
-                if (outcome(set ^ 1 << p, p, goal, top) > outcome(set, p, goal, top)) {
+                Person person = village.people[p];
+                boolean pledges = isIn(set, p);
+                int otherwise = pledges ? all - person.part : all + person.part;
+                if (outcome(person, !pledges, otherwise >= goal, top) > outcome(person, pledges, all >= goal, top)) {
                     return false;
                 }
             }
@@ -1156,12 +1160,10 @@ public final class IfYouWill {
             return some;
         }
 
-        private int outcome(int set, int p, int goal, int top) {
-            boolean pledges = isIn(set, p);
-            if (pledged(set) < goal) {
+        private static int outcome(Person person, boolean pledges, boolean reached, int top) {
+            if (!reached) {
                 return pledges ? top : 0;
             }
-            Person person = village.people[p];
             return pledges ? person.worth - person.part : person.worth;
         }
 
