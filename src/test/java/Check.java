@@ -57,6 +57,17 @@ final class Check {
         return x;
     }
 
+    /** An object with a part and a worth for each person. */
+    static IfYouWill dyke(int... partsAndWorths) {
+        IfYouWill x = new IfYouWill();
+        x.persons(partsAndWorths.length / 2);
+        for (int p = 0; p < partsAndWorths.length / 2; p++) {
+            x.offer(p, 0, partsAndWorths[2 * p]);
+            x.offer(p, 1, partsAndWorths[2 * p + 1]);
+        }
+        return x;
+    }
+
     /** A row of deeds, that of person 0 first. */
     static int row(int... deeds) {
         int row = 0;

@@ -57,18 +57,8 @@ public final class OffersTest {
         Check.due("the part is 5 now", x.offer(0, 0, 5), 5);
     }
 
-    private static IfYouWill dyke(int... partsAndWorths) {
-        IfYouWill x = new IfYouWill();
-        x.persons(partsAndWorths.length / 2);
-        for (int p = 0; p < partsAndWorths.length / 2; p++) {
-            x.offer(p, 0, partsAndWorths[2 * p]);
-            x.offer(p, 1, partsAndWorths[2 * p + 1]);
-        }
-        return x;
-    }
-
     private static void rests() {
-        IfYouWill x = dyke(10, 20, 10, 10, 10, 5);
+        IfYouWill x = Check.dyke(10, 20, 10, 10, 10, 5);
         Check.due("nobody pledges, no top", x.rests(0, 20, 0), 1);
         Check.due("a top draws", x.rests(0, 20, 1), 0);
         Check.due("two who need each other", x.rests(3, 20, 0), 1);
@@ -92,18 +82,18 @@ public final class OffersTest {
     }
 
     private static void leastTop() {
-        Check.due("a top of 1", dyke(10, 20, 10, 20).leastTop(20), 1);
-        Check.due("never come to", dyke(10, 20, 10, 20).leastTop(21), NONE);
-        Check.due("none is needed", dyke(10, 20).leastTop(10), 0);
-        Check.due("not worth it", dyke(10, 9).leastTop(10), NONE);
-        Check.due("just worth it: both rest without a top", dyke(10, 10).leastTop(10), NONE);
-        Check.due("worth 1 more", dyke(10, 11).leastTop(10), 0);
-        IfYouWill x = dyke(10, 20);
+        Check.due("a top of 1", Check.dyke(10, 20, 10, 20).leastTop(20), 1);
+        Check.due("never come to", Check.dyke(10, 20, 10, 20).leastTop(21), NONE);
+        Check.due("none is needed", Check.dyke(10, 20).leastTop(10), 0);
+        Check.due("not worth it", Check.dyke(10, 9).leastTop(10), NONE);
+        Check.due("just worth it: both rest without a top", Check.dyke(10, 10).leastTop(10), NONE);
+        Check.due("worth 1 more", Check.dyke(10, 11).leastTop(10), 0);
+        IfYouWill x = Check.dyke(10, 20);
         Check.due("goal 0", x.leastTop(0), OUTSIDE);
         Check.due("goal 501", x.leastTop(501), OUTSIDE);
         Check.due("goal 500", x.leastTop(500), NONE);
         Check.due("goal 1", x.leastTop(1), 0);
-        Check.due("parts of 0 as well", dyke(0, 0, 5, 9).leastTop(5), 0);
+        Check.due("parts of 0 as well", Check.dyke(0, 0, 5, 9).leastTop(5), 0);
     }
 
     private static void sly() {
@@ -123,7 +113,7 @@ public final class OffersTest {
         Check.due("followed", x.sly(2, 6, 1), 1020);
         Check.due("not worth it", x.sly(1, 6, 0), 0);
         Check.due("an aim of 0", x.sly(1, 0, 1), 1009);
-        Check.due("at rest where none does anything", dyke(0, 5).sly(0, 0, 1), 1005);
+        Check.due("at rest where none does anything", Check.dyke(0, 5).sly(0, 0, 1), 1005);
         Check.due("of like ones the own one", Check.with("0").sly(0, 0, 0), 4);
         Check.due("the term is its own again", x.climb(0, 0, 0), 42);
         Check.due("unknown ahead of outside", x.sly(3, 19, 2), UNKNOWN);

@@ -118,84 +118,70 @@ public final class TermsTest {
         Check.due("spoils nothing", x.lets(0, 0, 9), 2);
     }
 
-    private static void fault(String text, int number, int place) {
-        IfYouWill x = Check.with("2", "0");
-        Check.due("term of [" + text + "]", Check.tell(x, 0, text), -10 - number);
-        Check.due("fault of [" + text + "]", x.fault(), place);
-        Check.due("kept by [" + text + "]", x.lets(0, 0, 9), 2);
-        Check.due("emptied by [" + text + "]", x.count(1), 0);
-    }
-
-    private static void fine(String text, int rules) {
-        IfYouWill x = new IfYouWill();
-        Check.due("term of [" + text + "]", Check.tell(x, 0, text), rules);
-        Check.due("fault of [" + text + "]", x.fault(), NONE);
-    }
-
     private static void faultsInOrder() {
-        fault("2 3", 1, 2);
-        fault("2 300", 1, 2);
-        fault("300", 2, 0);
-        fault("003", 2, 0);
-        fine("03", 1);
-        fault("04", 2, 0);
-        fault("as 6", 2, 3);
-        fault("as", 1, 2);
-        fault("as least", 1, 3);
-        fault("leasst", 1, 0);
-        fault(" Least", 1, 1);
-        fault("2\tif sum 1", 1, 1);
-        fault("2 if sum 1 #", 1, 11);
-        fault("2 ifsum 1", 1, 2);
-        fault("2 if sumz 1", 1, 5);
-        fault("2 if xho 1", 1, 5);
-        fault("2 xf sum 1", 1, 2);
-        fine("2if sum1and who1gives2or day9else most", 2);
-        fault("2 if sum 1 2", 1, 11);
-        fault("2 if sum 1 if sum 2", 1, 11);
-        fault("if sum 1", 1, 0);
-        fault("2 else", 1, 6);
-        fault("2 else else", 1, 7);
-        fault("2 if sum", 1, 8);
-        fault("2 if sum 100", 2, 9);
-        fault("2 if sum x", 1, 9);
-        fine("2 if sum 18 and sum 0 and day 1 and day 9 and any 6 and any 0", 1);
-        fault("2 if day 10", 2, 9);
-        fault("2 if who 1 gives", 1, 16);
-        fault("2 if who 1 gives 4", 2, 17);
-        fault("2 if all give 4", 2, 14);
-        fault("2 if all gives 1", 1, 9);
-        fault("2 if all of 1 to 6", 2, 17);
-        fault("2 if all of 6 to 1", 2, 12);
-        fault("2 if all of 5 to 4 give 9", 3, 17);
-        fault("2 if all of 5 to 004", 2, 17);
-        fine("2 if all of 5 to 5 give 0", 1);
-        fine("2 if all of 0 to 0 and any 1 of 0 to 5", 1);
-        fault("2 if all give 1 of 1 to 2", 1, 16);
-        fault("2 if any", 1, 8);
-        fault("2 if any of 1 to 2", 1, 9);
-        fault("2 if any 2 of 1", 1, 15);
-        fault("2 if sum 1 and", 1, 14);
-        fault("2 if sum 1 or or sum 2", 1, 14);
-        fault("2 if not", 1, 8);
-        fault("2 if ()", 1, 6);
-        fault("2 if (sum 1 else 3", 1, 12);
-        fault("2 if (sum 1))", 1, 12);
-        fault("(2)", 1, 0);
-        fault("2 if sum 1 not", 1, 11);
-        fault("2 if sum 1 (sum 2)", 1, 11);
+        Edges.fault("2 3", 1, 2);
+        Edges.fault("2 300", 1, 2);
+        Edges.fault("300", 2, 0);
+        Edges.fault("003", 2, 0);
+        Edges.fine("03", 1);
+        Edges.fault("04", 2, 0);
+        Edges.fault("as 6", 2, 3);
+        Edges.fault("as", 1, 2);
+        Edges.fault("as least", 1, 3);
+        Edges.fault("leasst", 1, 0);
+        Edges.fault(" Least", 1, 1);
+        Edges.fault("2\tif sum 1", 1, 1);
+        Edges.fault("2 if sum 1 #", 1, 11);
+        Edges.fault("2 ifsum 1", 1, 2);
+        Edges.fault("2 if sumz 1", 1, 5);
+        Edges.fault("2 if xho 1", 1, 5);
+        Edges.fault("2 xf sum 1", 1, 2);
+        Edges.fine("2if sum1and who1gives2or day9else most", 2);
+        Edges.fault("2 if sum 1 2", 1, 11);
+        Edges.fault("2 if sum 1 if sum 2", 1, 11);
+        Edges.fault("if sum 1", 1, 0);
+        Edges.fault("2 else", 1, 6);
+        Edges.fault("2 else else", 1, 7);
+        Edges.fault("2 if sum", 1, 8);
+        Edges.fault("2 if sum 100", 2, 9);
+        Edges.fault("2 if sum x", 1, 9);
+        Edges.fine("2 if sum 18 and sum 0 and day 1 and day 9 and any 6 and any 0", 1);
+        Edges.fault("2 if day 10", 2, 9);
+        Edges.fault("2 if who 1 gives", 1, 16);
+        Edges.fault("2 if who 1 gives 4", 2, 17);
+        Edges.fault("2 if all give 4", 2, 14);
+        Edges.fault("2 if all gives 1", 1, 9);
+        Edges.fault("2 if all of 1 to 6", 2, 17);
+        Edges.fault("2 if all of 6 to 1", 2, 12);
+        Edges.fault("2 if all of 5 to 4 give 9", 3, 17);
+        Edges.fault("2 if all of 5 to 004", 2, 17);
+        Edges.fine("2 if all of 5 to 5 give 0", 1);
+        Edges.fine("2 if all of 0 to 0 and any 1 of 0 to 5", 1);
+        Edges.fault("2 if all give 1 of 1 to 2", 1, 16);
+        Edges.fault("2 if any", 1, 8);
+        Edges.fault("2 if any of 1 to 2", 1, 9);
+        Edges.fault("2 if any 2 of 1", 1, 15);
+        Edges.fault("2 if sum 1 and", 1, 14);
+        Edges.fault("2 if sum 1 or or sum 2", 1, 14);
+        Edges.fault("2 if not", 1, 8);
+        Edges.fault("2 if ()", 1, 6);
+        Edges.fault("2 if (sum 1 else 3", 1, 12);
+        Edges.fault("2 if (sum 1))", 1, 12);
+        Edges.fault("(2)", 1, 0);
+        Edges.fault("2 if sum 1 not", 1, 11);
+        Edges.fault("2 if sum 1 (sum 2)", 1, 11);
     }
 
     private static void deepOnes() {
-        fine("1 if not not not not not not sum 1", 1);
-        fault("1 if not not not not not not not sum 1", 4, 29);
-        fine("1 if not(not(not(sum 1)))", 1);
-        fault("1 if not(not(not((sum 1))))", 4, 17);
-        fault("1 if ((((((not sum 1))))))", 4, 11);
-        fault("1 if ((((((((((", 4, 11);
-        fine("1 if ((((((sum 1)))))) and ((((((sum 1)))))) or not not not sum 1 and not not not not sum 2", 1);
-        fault("1 if ((((((x", 1, 11);
-        fine("1 if (((((not sum 1 and not sum 2) or not sum 1))))", 1);
+        Edges.fine("1 if not not not not not not sum 1", 1);
+        Edges.fault("1 if not not not not not not not sum 1", 4, 29);
+        Edges.fine("1 if not(not(not(sum 1)))", 1);
+        Edges.fault("1 if not(not(not((sum 1))))", 4, 17);
+        Edges.fault("1 if ((((((not sum 1))))))", 4, 11);
+        Edges.fault("1 if ((((((((((", 4, 11);
+        Edges.fine("1 if ((((((sum 1)))))) and ((((((sum 1)))))) or not not not sum 1 and not not not not sum 2", 1);
+        Edges.fault("1 if ((((((x", 1, 11);
+        Edges.fine("1 if (((((not sum 1 and not sum 2) or not sum 1))))", 1);
     }
 
     private static void longTexts() {
@@ -203,14 +189,14 @@ public final class TermsTest {
         for (int k = 1; k < 24; k++) {
             rules.append("else").append(k % 4);
         }
-        fine(rules.toString(), 24);
-        fine(rules + "    ", 24);
-        fault(rules + "else", 1, 120);
+        Edges.fine(rules.toString(), 24);
+        Edges.fine(rules + "    ", 24);
+        Edges.fault(rules + "else", 1, 120);
         StringBuilder ones = new StringBuilder("1 if all");
         while (ones.length() + 7 <= 120) {
             ones.append(" or all");
         }
-        fine(ones.toString(), 1);
+        Edges.fine(ones.toString(), 1);
         IfYouWill x = Check.with(ones.toString(), "0");
         Check.due("a long or", x.lets(0, Check.row(0, 1), 9), 1);
         Check.due("a long or of none", x.lets(0, 0, 9), 0);
@@ -221,9 +207,9 @@ public final class TermsTest {
         x = Check.with(nots.toString(), "0");
         Check.due("a long and", x.lets(0, Check.row(0, 1), 9), 1);
         Check.due("a long and of none", x.lets(0, 0, 9), 0);
-        fault("9".repeat(120), 2, 0);
-        fault("a".repeat(120), 1, 0);
-        fault("(".repeat(120), 1, 0);
+        Edges.fault("9".repeat(120), 2, 0);
+        Edges.fault("a".repeat(120), 1, 0);
+        Edges.fault("(".repeat(120), 1, 0);
     }
 
     private static void letsMuch() {
