@@ -22,6 +22,7 @@ public final class Promise04TermTest {
         wordsAreWhole();
         everyByteAtTheBeginning();
         everyByteAtTheEnd();
+        everyByteBesideAWord();
         blanks();
         sideBySide();
         atTheFirstByteThatHasOne();
@@ -32,6 +33,7 @@ public final class Promise04TermTest {
         deepAgain();
         aFaultChangesNoTerm();
         aGoodOneChangesOneTerm();
+        whatWasReadBeforeIsForgotten();
         Check.end("Promise04TermTest");
     }
 
@@ -202,7 +204,7 @@ public final class Promise04TermTest {
             Edges.fine(whole, word.equals("else") ? 2 : 1);
             String less = word.substring(0, word.length() - 1);
             String last = word.substring(word.length() - 1);
-            for (String other : new String[] {word + "x", "x" + word, less, word + word, less + "z", less + last.toUpperCase(),
+            for (String other : new String[] {word + "a", word + "z", "a" + word, "z" + word, less, word + word, less + "z", less + last.toUpperCase(),
                 word.toUpperCase(), less + " " + last}) {
                 Edges.fault(whole.substring(0, at) + other + whole.substring(end), 1, at);
             }
@@ -230,6 +232,24 @@ public final class Promise04TermTest {
                 Edges.fault(text, 2, 9);
             } else {
                 Edges.fault(text, 1, 10);
+            }
+        }
+    }
+
+    private static void everyByteBesideAWord() {
+        for (char b = 0; b < 256; b++) {
+            boolean letter = b >= 'a' && b <= 'z';
+            boolean figure = b >= '0' && b <= '9';
+            if (figure) {
+                Edges.fine("2 if sum" + b, 1);
+                Edges.fault(b + "least", b <= '3' ? 1 : 2, b <= '3' ? 1 : 0);
+            } else {
+                Edges.fault("2 if sum" + b, 1, letter ? 5 : b == ' ' ? 9 : 8);
+            }
+            if (b == ' ') {
+                Edges.fine(b + "least", 1);
+            } else if (!figure) {
+                Edges.fault(b + "least", 1, 0);
             }
         }
     }
@@ -368,5 +388,24 @@ public final class Promise04TermTest {
         }
         Check.due("one rule again", Check.tell(x, 5, "0"), 1);
         Check.due("and it lets", x.lets(5, 0, 9), 0);
+    }
+
+    /** A text that broke off at its fault, or a term that was there before, leaves nothing in the next one. */
+    private static void whatWasReadBeforeIsForgotten() {
+        for (String before : new String[] {"3 if any 1 give 1 and sum 1 and #", "3 else 2 if not sum 1 else 4", "3 if sum 1 else 2 if day 1"}) {
+            for (String now : new String[] {"1", "1 if who 1", "1 else 2", "0 if who 1 else 1"}) {
+                IfYouWill x = Check.with("2 if not any 2 give 2", "0");
+                Check.tell(x, 1, before);
+                Check.tell(x, 1, before);
+                int rules = now.contains("else") ? 2 : 1;
+                String what = "[" + now + "] behind [" + before + "]";
+                Check.due(what, Check.tell(x, 0, now), rules);
+                Check.due(what + " by nothing", x.lets(0, 0, 9), now.startsWith("1 if") ? 0 : 1);
+                Check.due(what + " by 1", x.lets(0, Check.row(0, 1), 9), now.startsWith("0 if") ? 0 : 1);
+                Check.due(what + " by 3", x.lets(0, Check.row(0, 3), 1), now.startsWith("0 if") ? 0 : 1);
+                Check.due(what + " softer", x.soft(0, Check.row(2, 0)), IfYouWill.NONE);
+                Check.due(what + " softer for 1", x.soft(0, Check.row(1, 0)), now.startsWith("1 if") ? IfYouWill.NONE : 0);
+            }
+        }
     }
 }

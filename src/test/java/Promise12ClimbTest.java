@@ -18,6 +18,7 @@ public final class Promise12ClimbTest {
         roundFromTheStart();
         roundAfterSome();
         theLongestRounds();
+        nearlyAllRows();
         oneByOneByWhatIsSoThen();
         onDayNine();
         Check.end("Promise12ClimbTest");
@@ -123,6 +124,17 @@ public final class Promise12ClimbTest {
         climb("counting up at once", x, 0, AT_ONCE, NONE, 0, 8);
         climb("counting up one by one", x, 0, ONE_BY_ONE, NONE, 0, 4);
         climb("from where each is ahead of the other", x, Check.row(0, 1), AT_ONCE, NONE, 0, 8);
+    }
+
+    /** Each passes on what it does; the last adds one, but for some rows: of the 4096 rows a round takes 4053. */
+    private static void nearlyAllRows() {
+        String counts = " else1if not who0else2if not who0gives2else3if not who0gives3";
+        IfYouWill x = Check.with("as 1", "as 2", "as 3", "as 4", "as 5", "as0if who3gives1and not who4gives2" + counts);
+        climb("nearly all rows, from the first", x, 0, AT_ONCE, NONE, 0, 4053);
+        climb("nearly all rows, from the last", x, 4095, AT_ONCE, NONE, 0, 4053);
+        x = Check.with("as 1", "as 2", "as 3", "as 4", "as 5", "as0if who3gives1and not who4gives2or not sum1" + counts);
+        climb("many steps ahead of a long round", x, 1792, AT_ONCE, NONE, 1948, 1136);
+        climb("many steps to a rest", x, 4095, AT_ONCE, 0, 641, 1);
     }
 
     private static void oneByOneByWhatIsSoThen() {
